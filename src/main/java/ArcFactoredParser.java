@@ -889,7 +889,6 @@ public final class ArcFactoredParser {
 
         void begin(int words) {
             size = words;
-            found = 0;
             for (int word = 0; word < NODES; word++) {
                 offers[word] = 0;
             }

@@ -67,6 +67,8 @@ public final class AnnotationsTest {
         sequence("A3B0C0;", SHIFT, SHIFT, SWAP, RIGHT, SHIFT, SHIFT, LEFT, RIGHT);
         // In the projective order 2 comes first, then 1, 4, 3: two swaps, each followed by a shift more.
         sequence("A3B0C2D1;", SHIFT, SHIFT, SWAP, SHIFT, SHIFT, SHIFT, SWAP, RIGHT, SHIFT, LEFT, RIGHT, RIGHT);
+        // 2 waits for 1, and 1 for 4: so 3 and 2 are swapped with 4.
+        sequence("A2B3C0D1;", SHIFT, SHIFT, SHIFT, SHIFT, SWAP, SWAP, RIGHT, SHIFT, LEFT, SHIFT, LEFT, RIGHT);
         new Script("38: bad indices").store("A0B1;").calls("transition(0, -1) = NONE; transition(0, 4) = NONE;"
             + "transition(0, 2147483647) = NONE; transition(0, -2147483648) = NONE; transition(1, 0) = BAD_INDEX;"
             + "transition(1, -1) = BAD_INDEX; transition(-1, 0) = BAD_INDEX; transitions(1) = BAD_INDEX;"

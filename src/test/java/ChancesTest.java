@@ -46,6 +46,10 @@ public final class ChancesTest {
         new Script("32: potential 0").store("A0B1;").calls("setBias(0, 1, 2, -50) = 0; chance(0, 1, 2, false) = 0;"
             + "chance(0, 1, 2, true) = 1; chance(0, 0, 2, false) = 1; chance(0, 0, 2, true) = 1; chance(0, 2, 1, false) = 1;"
             + "chance(0, 2, 1, true) = 2");
+        // All weights are equal: of 12 trees without crossings, 7 have the arc to word 1 or 3, and 4 that to word 2 (as many as each other arc to it).
+        new Script("32: projective").store("A0B0C0;").calls("setProjective(true) = 0; chance(0, 0, 1, false) = 7;"
+            + "chance(0, 0, 1, true) = 12; chance(0, 0, 3, false) = 7; chance(0, 0, 3, true) = 12; chance(0, 0, 2, false) = 1;"
+            + "chance(0, 0, 2, true) = 3; riskHead(0, 1) = 0; riskHead(0, 2) = 0; riskHead(0, 3) = 0");
         new Script("32: large numbers").store("A0A0A0A0A0A0;").calls("setShift(19) = 10; setBias(0, 0, 1, 1) = 0;"
             + "chance(0, 0, 1, false) = 8; chance(0, 0, 1, true) = 27; chance(0, 2, 1, false) = 19;"
             + "chance(0, 2, 1, true) = 135");

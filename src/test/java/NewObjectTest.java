@@ -62,10 +62,14 @@ public final class NewObjectTest {
             if (!Modifier.isPrivate(method.getModifiers()) && !method.isSynthetic()) {
                 seen.add(describe(method));
             } else {
-                for (String name : FACE) {
-                    Script.check("private " + method.getName() + " bears no public name",
-                        !name.contains(" " + method.getName() + "("));
-                }
+                bearsNoPublicName(method);
+            }
+        }
+        for (Class<?> inside : ArcFactoredParser.class.getDeclaredClasses()) {
+            Script.check(inside + " is static and not public", Modifier.isStatic(inside.getModifiers())
+                && !Modifier.isPublic(inside.getModifiers()) && !Modifier.isProtected(inside.getModifiers()));
+            for (Method method : inside.getDeclaredMethods()) {
+                bearsNoPublicName(method);
             }
         }
         Script.check("the methods of the face: " + seen + " are " + due, seen.equals(due));
@@ -75,6 +79,12 @@ public final class NewObjectTest {
         Script.check("there is one constructor, without parameters", constructors.length == 1
             && constructors[0].getParameterCount() == 0 && Modifier.isPublic(constructors[0].getModifiers()));
         fields();
+    }
+
+    private static void bearsNoPublicName(Method method) {
+        for (String name : FACE) {
+            Script.check("the method " + method + " bears no public name", !name.contains(" " + method.getName() + "("));
+        }
     }
 
     private static String describe(Method method) {

@@ -3,6 +3,7 @@ import java.util.ArrayList;
 import java.util.Arrays;
 import java.util.Comparator;
 import java.util.List;
+import java.util.Random;
 
 /**
  * The document once more, in its plainest form: all sequences of heads are written down, those
@@ -56,6 +57,11 @@ final class PlainParser {
             heads[at] = head;
             extend(heads, at + 1, trees);
         }
+    }
+
+    static int[] randomTree(int size, Random random) {
+        List<int[]> trees = TREES.get(size);
+        return trees.get(random.nextInt(trees.size()));
     }
 
     private static boolean isTree(int[] heads) {

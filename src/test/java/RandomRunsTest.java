@@ -67,14 +67,14 @@ public final class RandomRunsTest {
         StringBuilder text = new StringBuilder();
         for (int sentence = random.nextInt(2); sentence >= 0; sentence--) {
             int size = 1 + random.nextInt(longest);
-            for (int word = 1; word <= size; word++) {
-                text.append((char) ('A' + random.nextInt(spread < 5 ? 2 : 8))).append(random.nextInt(size + 1));
+            int[] heads = PlainParser.randomTree(size, random);
+            for (int head : heads) {
+                text.append((char) ('A' + random.nextInt(spread < 5 ? 2 : 8))).append(head);
             }
             text.append(';');
         }
         if (random.nextInt(4) == 0) {
-            text.setCharAt(random.nextInt(text.length()), ";A1H0I9"
-                .charAt(random.nextInt(7)));
+            text.setCharAt(random.nextInt(text.length()), ";A1H0I9".charAt(random.nextInt(7)));
         }
         for (int i = 0; i < text.length(); i++) {
             both("append", (int) text.charAt(i));

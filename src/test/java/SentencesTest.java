@@ -66,6 +66,8 @@ public final class SentencesTest {
             + "annotatedHead(0, 2) = 0; annotatedHead(0, 3) = 0; acceptBest(0) = 0; setBias(0, 3, 1, 5) = 0;"
             + "acceptBest(0) = 1; annotatedHead(0, 1) = 3; annotatedHead(0, 2) = 0;"
             + "acceptBest(1) = BAD_INDEX; acceptBest(-1) = BAD_INDEX");
+        new Script("12: the last word").store("A0B1;").calls("acceptBest(0) = 1; annotatedHead(0, 1) = 0; annotatedHead(0, 2) = 0;"
+            + "setBias(0, 1, 2, 1) = 0; acceptBest(0) = 1; annotatedHead(0, 2) = 1; correct(0) = 2");
         new Script("12: without an admissible tree").store("A0B1;").calls("constrain(0, 1, 2, 1) = 0; constrain(0, 0, 2, 1) = 0;"
             + "acceptBest(0) = NONE; annotatedHead(0, 1) = 0; annotatedHead(0, 2) = 1");
     }
