@@ -1057,7 +1057,7 @@ public final class ArcFactoredParser {
 
         /** The branch with the lowest word is chosen first, so that no forest counts twice. */
         private long addForests(int node, int set) {
-            int lowest = Integer.lowestOneBit(set);
+            int lowest = set & -set;
             long sum = 0;
             // The next subset is always below the last one, and 0 ends the loop.
             for (int branch = set; branch > 0; branch = (branch - 1) & set) {
@@ -1104,7 +1104,7 @@ public final class ArcFactoredParser {
             if (gain == 0) {
                 return;
             }
-            int lowest = Integer.lowestOneBit(set);
+            int lowest = set & -set;
             for (int branch = set; branch > 0; branch = (branch - 1) & set) {
                 if ((branch & lowest) != 0) {
                     branchGains[node][branch] += gain * forests[node][set ^ branch];
@@ -1134,7 +1134,7 @@ public final class ArcFactoredParser {
 
         /** In a tree without crossings the words of each branch stand side by side. */
         private boolean mayBranch(int set) {
-            return !settings.projective || (set & (set + Integer.lowestOneBit(set))) == 0;
+            return !settings.projective || (set & (set + (set & -set))) == 0;
         }
 
         private static int bit(int word) {

@@ -46,7 +46,8 @@ public final class ChancesTest {
         new Script("32: potential 0").store("A0B1;").calls("setBias(0, 1, 2, -50) = 0; chance(0, 1, 2, false) = 0;"
             + "chance(0, 1, 2, true) = 1; chance(0, 0, 2, false) = 1; chance(0, 0, 2, true) = 1; chance(0, 2, 1, false) = 1;"
             + "chance(0, 2, 1, true) = 2");
-        // All weights are equal: of 12 trees without crossings, 7 have the arc to word 1 or 3, and 4 that to word 2 (as many as each other arc to it).
+        // All weights are equal: of 12 trees without crossings, 7 have the arc from the root to word 1, 7 that to
+        // word 3, and 4 that to word 2, as many as have each other arc to word 2.
         new Script("32: projective").store("A0B0C0;").calls("setProjective(true) = 0; chance(0, 0, 1, false) = 7;"
             + "chance(0, 0, 1, true) = 12; chance(0, 0, 3, false) = 7; chance(0, 0, 3, true) = 12; chance(0, 0, 2, false) = 1;"
             + "chance(0, 0, 2, true) = 3; riskHead(0, 1) = 0; riskHead(0, 2) = 0; riskHead(0, 3) = 0");
