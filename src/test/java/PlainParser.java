@@ -59,6 +59,10 @@ final class PlainParser {
         }
     }
 
+    static List<int[]> trees(int size) {
+        return TREES.get(size);
+    }
+
     static int[] randomTree(int size, Random random) {
         List<int[]> trees = TREES.get(size);
         return trees.get(random.nextInt(trees.size()));
@@ -557,7 +561,7 @@ final class PlainParser {
         return no(sentence) || index < 0 || index >= words(sentence) ? BAD_INDEX : orderBelow(sentence, 0).get(index + 1);
     }
 
-    private List<Integer> sequence(int sentence) {
+    List<Integer> sequence(int sentence) {
         List<Integer> order = orderBelow(sentence, 0);
         List<Integer> stack = new ArrayList<>(List.of(0));
         List<Integer> buffer = new ArrayList<>();

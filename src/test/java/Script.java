@@ -8,11 +8,20 @@ final class Script {
     private static int wrong = 0;
     private static int looked = 0;
 
+    /** What an object answers after so many calls is free, so no test may rest on it. */
+    private static final int MOST_CALLS = 512;
+
     private final String name;
     private final ArcFactoredParser parser = new ArcFactoredParser();
+    private int used = 0;
 
     Script(String name) {
         this.name = name;
+    }
+
+    /** The object, for a test that has to make calls of its own. */
+    ArcFactoredParser parser() {
+        return parser;
     }
 
     /** Appends a text to the text of the object. */
@@ -20,6 +29,7 @@ final class Script {
         for (int i = 0; i < text.length(); i++) {
             parser.append(text.charAt(i));
         }
+        count(text.length());
         return this;
     }
 
@@ -33,7 +43,22 @@ final class Script {
             report("read() of " + text, after, before + 1L);
         }
         parser.clearText();
+        count(4);
         return this;
+    }
+
+    /** Makes a call once for each value, which stands for the question mark; each time the answer is the same. */
+    Script each(String call, String due, int... values) {
+        for (int value : values) {
+            call(call.replace("?", Integer.toString(value)) + " = " + due);
+        }
+        return this;
+    }
+
+    /** Makes a call with values just outside a range, and with such that only their lowest bits bring inside. */
+    Script outside(String call, String due, int low, int high) {
+        return each(call, due, low - 1, high + 1, low - 256, low + 256, low + 65536, Integer.MIN_VALUE + low,
+            Integer.MIN_VALUE, Integer.MAX_VALUE);
     }
 
     Script calls(String calls) {
@@ -52,6 +77,7 @@ final class Script {
         String[] words = given.isEmpty() ? new String[0] : given.split(",");
         String due = line.substring(line.indexOf('=', close) + 1).strip();
         looked++;
+        count(1);
         try {
             Method method = find(line.substring(0, open).strip(), words.length);
             long answer = ((Number) method.invoke(parser, arguments(method, words))).longValue();
@@ -61,6 +87,13 @@ final class Script {
         } catch (ReflectiveOperationException e) {
             wrong++;
             System.out.println(name + ": " + line + ": " + (e.getCause() == null ? e : e.getCause()));
+        }
+    }
+
+    private void count(int calls) {
+        used += calls;
+        if (used > MOST_CALLS) {
+            check(name + ": at most " + MOST_CALLS + " calls on one object", false);
         }
     }
 
