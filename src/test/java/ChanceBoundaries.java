@@ -98,6 +98,8 @@ final class ChanceBoundaries {
         new Script(none + ", weights 0").store("A0B0;").calls("setShift(1) = 10; chance(0, 0, 1, true) = 3; setShift(0) = 1;"
             + "chance(0, 0, 1, true) = NONE; chance(0, 0, 1, false) = NONE; setBias(0, 0, 1, 1) = 0; chance(0, 0, 1, true) = NONE;"
             + "setBias(0, 0, 2, 1) = 0; chance(0, 0, 1, true) = 1; chance(0, 0, 1, false) = 1");
+        new Script(none + ", the sum 1").store("A0;").calls("setShift(1) = 10; weightSum(0) = 1; chance(0, 0, 1, true) = 1;"
+            + "chance(0, 0, 1, false) = 1; setShift(0) = 1; weightSum(0) = 0; chance(0, 0, 1, true) = NONE; chance(0, 0, 1, false) = NONE");
         Twins.noTrace(none, Twins.Past.BARREN, "chance(0, 0, 1, true) = NONE; chance(0, 1, 2, false) = NONE");
     }
 
@@ -131,6 +133,8 @@ final class ChanceBoundaries {
             + "riskHead(0, 2) = NONE; riskHead(0, 0) = BAD_INDEX; riskHead(0, 3) = BAD_INDEX; riskHead(1, 1) = BAD_INDEX;"
             + "setShift(10) = 0; riskHead(0, 1) = 0; constrain(0, 0, 1, 2) = 0; riskHead(0, 1) = 2; constrain(0, 2, 1, 2) = 0;"
             + "riskHead(0, 1) = NONE; riskHead(0, 2) = NONE");
+        new Script(none + ", the sum 1").store("A0;").calls("setShift(1) = 10; weightSum(0) = 1; riskHead(0, 1) = 0; setShift(0) = 1;"
+            + "weightSum(0) = 0; riskHead(0, 1) = NONE");
         Twins.noTrace(none, Twins.Past.BARREN, "riskHead(0, 1) = NONE; riskHead(0, 2) = NONE");
     }
 }

@@ -218,6 +218,9 @@ final class RankingBoundaries {
             + "regret(0, 1, 1) = BAD_INDEX; regret(0, 1, 0) = BAD_INDEX; regret(0, 0, 7) = BAD_INDEX; regret(0, 0, 0) = BAD_INDEX");
         String none = Doc.says(27, "NONE if no admissible tree contains the arc");
         new Script(none + ", forbidden").store("A0B0;").calls("constrain(0, 2, 1, 2) = 0; regret(0, 2, 1) = NONE; regret(0, 0, 1) = 0");
+        // What has been found before the arc was forbidden does not count.
+        new Script(none + ", forbidden later").store("A0B0;C0D0E0;").calls("regret(0, 2, 1) = 0; constrain(0, 2, 1, 2) = 0; regret(0, 2, 1) = NONE;"
+            + "regret(1, 3, 2) = 0; constrain(1, 3, 2, 2) = 0; regret(1, 3, 2) = NONE; regret(1, 1, 2) = 0; remove(1) = 1; regret(0, 2, 1) = NONE");
         new Script(none + ", another required").store("A0B0;").calls("constrain(0, 0, 1, 1) = 0; regret(0, 2, 1) = NONE;"
             + "regret(0, 0, 1) = 0; regret(0, 1, 2) = 0; constrain(0, 1, 2, 1) = 0; regret(0, 0, 2) = NONE; regret(0, 1, 2) = 0");
         new Script(none + ", a cycle").store("A0B0;").calls("constrain(0, 1, 2, 1) = 0; regret(0, 2, 1) = NONE");

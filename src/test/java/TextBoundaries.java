@@ -63,6 +63,10 @@ final class TextBoundaries {
     private static void clearText() {
         new Script(Doc.says(3, "Empties the text")).type(Twins.FULL_TEXT).calls("clearText() = 100; faultPosition() = 0;"
             + "read() = FAULT; append(65) = 1; faultPosition() = 1; append(48) = 2; append(59) = 3; read() = 1; words(0) = 1");
+        // Behind the new text nothing of the old one is read: no semicolon, and no head.
+        new Script(Doc.says(3, "Empties the text") + ", to its end").type("A0;;").calls("clearText() = 4").type("A0;").calls("faultPosition() = NONE;"
+            + "read() = 1; clearText() = 3").type("B0C0;").calls("clearText() = 5").type("B0;").calls("read() = 2; read() = 3; words(1) = 1;"
+            + "words(2) = 1; words(3) = BAD_INDEX");
         new Script(Doc.says(3, "the length that it had")).calls("clearText() = 0; clearText() = 0; append(65) = 1; clearText() = 1;"
             + "clearText() = 0").type("A".repeat(99)).calls("clearText() = 99").type("A".repeat(101)).calls("clearText() = 100;"
             + "clearText() = 0");

@@ -45,31 +45,6 @@ public final class TrainingTest {
         Script.check("22: the score of weights at their limit", parser.score(0, 0, 1) == -1998);
         Script.check("13: the previous weight is beyond what can be set", parser.setTagWeight(1, 0, 5) == 999);
         Script.check("39: training goes on from what was set", parser.train(0) == 1 && parser.tagWeight(1, 0) == 6);
-        clampIsStepByStep();
-    }
-
-    /**
-     * The tag weight of A below A rises for the annotated arc and falls for the best one. At 999
-     * it stays first and falls then, so that 998 is left.
-     */
-    private static void clampIsStepByStep() {
-        ArcFactoredParser parser = new ArcFactoredParser();
-        for (char letter : "A0A1;A0A1A1;".toCharArray()) {
-            parser.append(letter);
-        }
-        parser.read();
-        parser.constrain(0, 0, 2, 1);
-        parser.constrain(1, 0, 1, 1);
-        parser.constrain(1, 0, 2, 2);
-        parser.constrain(1, 2, 3, 1);
-        for (int call = 1; call <= 200; call++) {
-            for (int times = 0; times < 10; times++) {
-                parser.train(0);
-            }
-        }
-        Script.check("39: the tag weight is 999", parser.tagWeight(0, 0) == 999);
-        Script.check("39: one word is wrong", parser.train(1) == 1);
-        Script.check("39: up first, then down: 998", parser.tagWeight(0, 0) == 998);
     }
 
     private static void trainAll() {
