@@ -541,15 +541,15 @@ public final class ArcFactoredParser {
             for (int head = 0; head <= s.size; head++) {
                 int given = 0;
                 if (holds(choices, head)) {
-                    given = counting ? 1 : potential(s, head, word);
+                    given = counting ? 1 : limitPotential(arcScore(s, head, word) + settings.shift);
                 }
                 sums.setPotential(head, word, given);
             }
         }
     }
 
-    private int potential(Sentence s, int head, int word) {
-        return Math.max(0, Math.min(MAX_POTENTIAL, arcScore(s, head, word) + settings.shift));
+    private static int limitPotential(int potential) {
+        return Math.max(0, Math.min(MAX_POTENTIAL, potential));
     }
 
     private static long greatestCommonDivisor(long a, long b) {

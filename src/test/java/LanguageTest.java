@@ -1,8 +1,12 @@
 import java.io.IOException;
+import java.lang.reflect.Field;
+import java.lang.reflect.Modifier;
 import java.nio.file.Files;
 import java.nio.file.Path;
 import java.util.ArrayDeque;
 import java.util.Deque;
+import java.util.HashMap;
+import java.util.Map;
 import java.util.regex.Matcher;
 import java.util.regex.Pattern;
 
@@ -15,6 +19,10 @@ public final class LanguageTest {
         "\\bboolean\\[\\]\\[\\]", "\\[\\]\\[\\]\\[\\]", "\\bdouble\\b", "\\bfloat\\b", "[^\\x00-\\x7f]"
     };
 
+    private static final Pattern METHOD = Pattern.compile("\\s+[\\w\\[\\] ]+ (\\w+)\\([^()]*\\) \\{");
+    private static final Pattern NAME = Pattern.compile("\\b(\\w+)\\(");
+    private static final int MOST_DEEP = 8;
+
     public static void main(String[] args) throws IOException {
         String source = Files.readString(Path.of("src/main/java/ArcFactoredParser.java"));
         String code = source.replaceAll("(?s)/\\*.*?\\*/", "").replaceAll("//[^\n]*", "");
@@ -24,6 +32,8 @@ public final class LanguageTest {
         }
         staticFieldsAreFinal(code);
         methodsAreShort(code);
+        callsStayFlat(bodies(code));
+        classesAreSmall();
         Script.end();
     }
 
@@ -51,5 +61,59 @@ public final class LanguageTest {
             }
         }
         Script.check("all braces are closed", opened.isEmpty());
+    }
+
+    /** The bodies of the methods by their names; methods with one name are taken together. */
+    private static Map<String, String> bodies(String code) {
+        Map<String, String> bodies = new HashMap<>();
+        String name = null;
+        for (String line : code.split("\n")) {
+            Matcher matcher = METHOD.matcher(line);
+            if (matcher.matches() && !line.matches("\\s+(} )?(if|for|while|switch|else|return)\\b.*")) {
+                name = matcher.group(1);
+                bodies.putIfAbsent(name, "");
+            } else if (name != null) {
+                bodies.merge(name, line + "\n", String::concat);
+            }
+        }
+        return bodies;
+    }
+
+    private static void callsStayFlat(Map<String, String> bodies) {
+        Script.check("the methods are found: " + bodies.keySet(), bodies.size() > 42 && bodies.containsKey("checksum"));
+        for (String name : bodies.keySet()) {
+            Script.check("the calls below " + name + " go at most " + MOST_DEEP + " deep", depth(name, bodies, 1) <= MOST_DEEP);
+        }
+    }
+
+    /** A method that calls itself is not counted twice; a circle of several methods ends beyond the bound. */
+    private static int depth(String name, Map<String, String> bodies, int above) {
+        int deepest = above;
+        Matcher matcher = NAME.matcher(bodies.get(name));
+        while (above <= MOST_DEEP && matcher.find()) {
+            String called = matcher.group(1);
+            if (bodies.containsKey(called) && !called.equals(name)) {
+                deepest = Math.max(deepest, depth(called, bodies, above + 1));
+            }
+        }
+        return deepest;
+    }
+
+    private static void classesAreSmall() {
+        Class<?>[] inside = ArcFactoredParser.class.getDeclaredClasses();
+        Script.check("there are at most twelve classes", inside.length < 12);
+        fieldsAreFew(ArcFactoredParser.class);
+        for (Class<?> type : inside) {
+            fieldsAreFew(type);
+            Script.check(type + " has no classes inside", type.getDeclaredClasses().length == 0);
+        }
+    }
+
+    private static void fieldsAreFew(Class<?> type) {
+        int fields = 0;
+        for (Field field : type.getDeclaredFields()) {
+            fields += Modifier.isStatic(field.getModifiers()) ? 0 : 1;
+        }
+        Script.check(type + " has at most twenty fields", fields <= 20);
     }
 }
